@@ -1040,13 +1040,11 @@ public final class RiddleRoad {
             }
         }
 
+        /** Places of walkers who are not there yet are as at first, also behind a copy. */
         private void addWalker(int newCoins, int newEar, int known) {
             if (walkers < MOST_WALKERS) {
-                at[walkers] = 0;
                 coins[walkers] = newCoins;
                 ear[walkers] = newEar;
-                has[walkers] = 0;
-                sure[walkers] = 0;
                 learn(walkers, known, known);
                 walkers++;
             }

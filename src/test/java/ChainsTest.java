@@ -124,12 +124,30 @@ public final class ChainsTest {
         x.forget();
         Check.chain(x, "ba");
         Check.chain(x, "bb");
+        c.due("the first, asked first", x.questions(true), 1);
         asks(c, x, 1, 1);
         RiddleRoad y = Check.told("gate 0");
         Check.chain(y, "a");
         Check.road(y, "gate 0");
         Check.chain(y, "ab");
         asks(c, y, -1, -1);
+    }
+
+    /** Going back, chains are as long as they were. */
+    private static void lengths(Check c) {
+        RiddleRoad x = Check.told("gate 0");
+        Check.chain(x, "p");
+        Check.road(x, "gate 0");
+        Check.chain(x, "qr");
+        x.image();
+        x.forget();
+        Check.chain(x, "st");
+        Check.chain(x, "uv");
+        c.due("they can be parted", x.questions(true), 0);
+        x.back();
+        c.due("short again", x.letter(0, 1), -1);
+        c.due("long still", x.letter(1, 1), 'r');
+        c.due("the short one's letter", x.letter(0, 0), 'p');
     }
 
     private static void imageAndUndo(Check c) {
@@ -146,6 +164,7 @@ public final class ChainsTest {
         x.back();
         c.due("the image has chains", x.count(9), 1);
         c.due("as they were", x.letter(0, 0), 'a');
+        lengths(c);
         x.inn(0);
         Check.chain(x, "c");
         c.due("a chain leaves what can be undone", x.count(10), 1);

@@ -41,6 +41,11 @@ public final class DaysTest {
         c.due("had for 99 days", y.walker(1, 3), 1);
         y.days(1);
         c.due("had for 100 days", y.walker(1, 3), 0);
+        RiddleRoad v = Check.told("gate 0;walker 0 0 knows 0;wear 1");
+        v.days(1);
+        c.due("had for one day", v.walker(0, 3), 1);
+        v.days(1);
+        c.due("had for more than one", v.walker(0, 3), 0);
         RiddleRoad z = Check.told("gate 0;walker 0 0 knows 0");
         z.days(50);
         Check.road(z, "wear 50");

@@ -109,6 +109,11 @@ public final class LawTest {
         c.wrongLaw(x, "hard 1 if (not (not (not (monday))))", 25);
         c.wrongLaw(x, "hard 1 if (not (not (not not monday)))", 25);
         c.wrongLaw(x, "hard 1 if monday or (((((((", 26);
+        c.wrongLaw(x, "(".repeat(400), 0);
+        c.wrongLaw(x, "hard 1 if 0" + "+1".repeat(194) + "+", 400);
+        chance(c, x, "hard 1 if 0" + "+1".repeat(193) + "<9", 80);
+        chance(c, x, "hard 1 if 9<0" + "+1".repeat(193), 79);
+        chance(c, x, "hard 1 if 9<0" + "or 0<1 and not 1<0 ".repeat(20), 79);
         String deepest = "(0<1 and (1<0 or (0<1 and (1<0 or (0<1 and (1<0 or 0+0<1+1+1))))))";
         chance(c, x, "hard 1 if " + deepest, 79);
         chance(c, x, "hard 1 if 1<0 or 0<1 and " + deepest, 79);

@@ -66,6 +66,10 @@ public final class RoadTextTest {
         c.due("wear never", x.count(5), 0);
         c.due("change in place of that before", x.count(6), 1);
         c.due("still a liar", x.walker(0, 5), 1);
+        Check.road(x, "walker 1 1;walker 1 1;liar 2");
+        c.due("a second liar", x.walker(2, 5), 1);
+        c.due("the first one still", x.walker(0, 5), 1);
+        c.due("no liar between", x.walker(1, 5), 0);
         Check.road(x, "change 0 1 0");
         c.due("change of both", x.count(6), 3);
         Check.road(x, "still");
@@ -181,6 +185,11 @@ public final class RoadTextTest {
         c.wrongRoad(x, seven + ";" + seven + ";still", 84);
         c.wrongRoad(x, seven + ";" + seven + "; ", 85);
         c.wrongRoad(x, seven + ";" + seven + ";x", 84);
+        c.wrongRoad(x, ";".repeat(400), 0);
+        c.wrongRoad(x, "wear 1" + " ".repeat(393) + "1", 399);
+        c.wrongRoad(x, "change 0" + " 0".repeat(194) + " 12", 397);
+        c.due("a long row of gates", Check.road(x, "change 11" + " 0".repeat(195)), 5);
+        c.due("they are of change", x.count(6), 2049);
     }
 
     private static void nothingStays(Check c) {

@@ -174,6 +174,10 @@ public final class TradeTest {
         c.due("one keeps the lie", x.walker(0, 4), 5);
         c.due("its day stays", x.since(0, 1), 2);
         c.due("a new one's day", x.since(3, 1), 3);
+        RiddleRoad y = Check.told("gate 0;walker 5 0 knows 0;walker 5 0;walker 5 0;liar 0;price 0 0 0");
+        y.sell(0, 1, 0);
+        c.due("a lie alone is told", y.inn(6), 1);
+        c.due("and stays a lie", y.walker(2, 4), 0);
         c.due("again", x.inn(15), 0);
         c.due("all inns are remembered", x.count(10), 2);
     }
