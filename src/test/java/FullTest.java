@@ -14,7 +14,7 @@ public final class FullTest {
     private static RiddleRoad full() {
         RiddleRoad x = new RiddleRoad();
         String three = "gate 1;gate 1;gate 1";
-        Check.road(x, three + ";" + three + ";" + three + ";gate 1;gate 1;gate 1 blind");
+        Check.road(x, three + ";" + three + ";" + three + ";gate 1;gate 1 singing;gate 1 blind");
         StringBuilder walkers = new StringBuilder("wear 9;change 11 0");
         String knows = " knows";
         for (int w = 0; w < 8; w++) {
@@ -73,7 +73,7 @@ public final class FullTest {
         }
         c.due("one is behind all", x.count(11), 1);
         c.due("only the latest twelve are remembered", x.count(10), 12);
-        c.due("all meet", x.inn(255), 8 * 12 - (1 + 2 + 3 + 4 + 5 + 6 + 7 + 12) - 1);
+        c.due("all meet", x.inn(-1), 8 * 12 - (1 + 2 + 3 + 4 + 5 + 6 + 7 + 12) - 1);
         c.due("the sixth has all", x.walker(6, 4), 4095);
         c.due("coins of all", x.count(8), 388);
     }
