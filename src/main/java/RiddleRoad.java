@@ -326,7 +326,7 @@ public final class RiddleRoad {
             case 9: return chains.count;
             case 10: return history.count;
             case 11: return now.standingAt(now.gates);
-            case 12: return Integer.bitCount(now.together(now.allWalkers()));
+            case 12: return now.answersOfAll();
             default: return NONE;
         }
     }
@@ -1082,6 +1082,15 @@ public final class RiddleRoad {
             int sum = 0;
             for (int w = 0; w < walkers; w++) {
                 sum += coins[w];
+            }
+            return sum;
+        }
+
+        /** How many answers are had: one that two walkers have counts twice, as at an inn. */
+        private int answersOfAll() {
+            int sum = 0;
+            for (int w = 0; w < walkers; w++) {
+                sum += Integer.bitCount(has[w]);
             }
             return sum;
         }

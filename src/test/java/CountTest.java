@@ -5,6 +5,7 @@ public final class CountTest {
         all(c);
         behind(c);
         coins(c);
+        answers(c);
         c.close();
     }
 
@@ -18,7 +19,7 @@ public final class CountTest {
         x.pass(0);
         x.pass(0);
         x.pass(1);
-        int[] due = {3, 3, 2, 3, 3, 8, 5, 8, 27, 1, 3, 0, 2};
+        int[] due = {3, 3, 2, 3, 3, 8, 5, 8, 27, 1, 3, 0, 3};
         for (int what = 0; what < due.length; what++) {
             c.due("count " + what, x.count(what), due[what]);
         }
@@ -37,7 +38,7 @@ public final class CountTest {
         c.due("one is", x.count(11), 1);
         c.due("answers that all have together", x.count(12), 1);
         x.inn(7);
-        c.due("one answer is had by all", x.count(12), 1);
+        c.due("one answer is had by all", x.count(12), 3);
         Check.road(x, "gate 0");
         c.due("a gate more", x.count(11), 0);
     }
@@ -53,5 +54,37 @@ public final class CountTest {
             }
             c.due("coins of all and the chest", x.count(7) + x.count(8), 987);
         }
+    }
+
+    /** One that two walkers have counts twice, whichever way it came or went. */
+    private static void answers(Check c) {
+        RiddleRoad x = new RiddleRoad();
+        c.due("nobody has any", x.count(12), 0);
+        Check.road(x, "gate 0;gate 0 singing;gate 0;walker 9 0 knows 0 1 2;walker 9 99 knows 1;walker 9 99;price 0 0 4");
+        c.due("three, one and none", x.count(12), 4);
+        x.sell(0, 1, 0);
+        c.due("one is sold", x.count(12), 5);
+        x.undo();
+        c.due("the sale is undone", x.count(12), 4);
+        c.due("all that came at an inn", x.inn(7) + 4, x.count(12));
+        c.due("all have all", x.count(12), 9);
+        x.undo();
+        x.image();
+        x.guess(2);
+        c.due("one was guessed", x.count(12), 5);
+        x.guess(1);
+        x.pass(1);
+        c.due("another was guessed", x.count(12), 6);
+        x.pass(2);
+        x.pass(1);
+        c.due("a gate sang for one", x.count(12), 7);
+        Check.road(x, "change 1");
+        x.days(7);
+        c.due("three forgot one on a Monday", x.count(12), 4);
+        x.back();
+        c.due("as it was in the image", x.count(12), 4);
+        Check.road(x, "wear 1");
+        x.days(2);
+        c.due("all are worn off", x.count(12), 0);
     }
 }

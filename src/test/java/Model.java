@@ -941,8 +941,6 @@ final class Model {
     }
 
     int count(int what) {
-        TreeSet<Integer> had = new TreeSet<>();
-        s.walkers.forEach(w -> had.addAll(w.known.keySet()));
         return switch (what) {
             case 0 -> s.gates.size();
             case 1 -> s.walkers.size();
@@ -956,7 +954,7 @@ final class Model {
             case 9 -> chains.size();
             case 10 -> past.size();
             case 11 -> (int) s.walkers.stream().filter(w -> w.at >= s.gates.size()).count();
-            case 12 -> had.size();
+            case 12 -> s.walkers.stream().mapToInt(w -> w.known.size()).sum();
             default -> NONE;
         };
     }
