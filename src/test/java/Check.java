@@ -1,6 +1,14 @@
+import java.io.IOException;
+import java.io.UncheckedIOException;
 import java.nio.charset.StandardCharsets;
+import java.nio.file.Files;
+import java.nio.file.Path;
+import java.util.ArrayList;
+import java.util.Arrays;
+import java.util.List;
+import java.util.function.Consumer;
 
-/** What all tests share: compared answers, and texts put on the tape. */
+/** What all tests share: compared answers, sentences of the document, and texts put on the tape. */
 final class Check {
     interface Call {
         long answer();
@@ -10,6 +18,9 @@ final class Check {
         void run();
     }
 
+    private static final String DOCUMENT = read(Path.of("../shared/DOC.md"));
+
+    private final List<String> sentences = new ArrayList<>();
     private int compared = 0;
     private int wrong = 0;
 
@@ -87,6 +98,41 @@ final class Check {
         return x;
     }
 
+    /** All that can be looked at without a change, but for the fault and the tape. */
+    static String all(RiddleRoad x) {
+        int[] counts = new int[13];
+        for (int what = 0; what < 13; what++) {
+            counts[what] = x.count(what);
+        }
+        int seed = x.seed(0);
+        x.seed(seed);
+        StringBuilder all = new StringBuilder("counts " + Arrays.toString(counts) + ", seed " + seed);
+        for (int g = 0; g < counts[0]; g++) {
+            all.append(", gate ").append(g);
+            for (int what = 0; what < 6; what++) {
+                all.append(' ').append(x.gate(g, what));
+            }
+            for (int chain = 0; chain < counts[9]; chain++) {
+                all.append(" letter ").append(x.letter(chain, g));
+            }
+        }
+        for (int w = 0; w < counts[1]; w++) {
+            all.append(", walker ").append(w);
+            for (int what = 0; what < 6; what++) {
+                all.append(' ').append(x.walker(w, what));
+            }
+            for (int g = 0; g < counts[0]; g++) {
+                all.append(' ').append(x.since(w, g)).append(' ').append(x.price(w, g)).append(' ').append(x.chance(w, g));
+            }
+        }
+        return all.toString();
+    }
+
+    /** Whether the tape has just so many bytes: neither end does anything then. */
+    static boolean taped(RiddleRoad x, int n) {
+        return !x.end(n + 1) && x.end(n);
+    }
+
     /** A text of the road that must be wrong at this byte. */
     void wrongRoad(RiddleRoad x, String text, int at) {
         refused("road \"" + text + "\"", IllegalArgumentException.class, () -> road(x, text));
@@ -98,7 +144,57 @@ final class Check {
         due("the fault of law \"" + text + "\"", x.fault(), at);
     }
 
+    /** A test of one sentence: the document must say these words, and the test must compare something. */
+    void sentence(String words, Consumer<Check> test) {
+        int comparedBefore = compared;
+        int wrongBefore = wrong;
+        sentences.add(words);
+        if (!DOCUMENT.isEmpty() && !DOCUMENT.contains(words)) {
+            wrong++;
+            System.out.println("the document has no such words");
+        }
+        try {
+            test.accept(this);
+        } catch (RuntimeException e) {
+            wrong++;
+            System.out.println("a call threw " + e);
+        }
+        if (compared == comparedBefore) {
+            wrong++;
+            System.out.println("nothing was compared");
+        }
+        if (wrong > wrongBefore) {
+            System.out.println("-- does not hold: " + words);
+        }
+    }
+
+    /** A promise must have a test of one sentence of its own at least. */
+    void promised(int promise) {
+        int from = DOCUMENT.indexOf("## Promise " + promise + ":");
+        int to = DOCUMENT.indexOf("\n## ", from + 1);
+        compared++;
+        if (DOCUMENT.isEmpty()) {
+            return;
+        }
+        if (from < 0 || to < 0 || sentences.stream().noneMatch(DOCUMENT.substring(from, to)::contains)) {
+            wrong++;
+            System.out.println("no sentence of promise " + promise + " has a test");
+        }
+    }
+
+    /** Where the document does not stand beside the project, the sentences are tested, but not looked up. */
+    private static String read(Path file) {
+        try {
+            return Files.exists(file) ? Files.readString(file) : "";
+        } catch (IOException e) {
+            throw new UncheckedIOException(e);
+        }
+    }
+
     void close() {
+        if (!sentences.isEmpty()) {
+            System.out.print(sentences.size() + " sentences, ");
+        }
         System.out.println(compared + " answers, " + wrong + " wrong");
         if (wrong > 0 || compared == 0) {
             System.exit(1);
