@@ -4,6 +4,7 @@ public final class EdgeActsTest {
 
     public static void main(String[] args) {
         Check c = new Check();
+        c.sentence("(FALSE ones are had, too: one does not know)", EdgeActsTest::falseOnesAreHad);
         c.sentence("plain, singing, closed (unless one is that WALKER), false: the ANSWER of G;", EdgeActsTest::byItsOwn);
         c.sentence("double: that and the one of OTHER;", EdgeActsTest::byBoth);
         c.sentence("blind: the ANSWER of the GATE behind it (of the last one: its own).", EdgeActsTest::blind);
@@ -56,6 +57,33 @@ public final class EdgeActsTest {
             c.due("may " + w + " " + gate, x.may(w, gate, false), (had >> w & 1) == 1);
             c.due("surely may " + w + " " + gate, x.may(w, gate, true), (sure >> w & 1) == 1);
         }
+    }
+
+    private static void falseOnesAreHad(Check c) {
+        RiddleRoad x = lies("gate 0;gate 0", 2);
+        Check.road(x, "price 2 0 0");
+        Check.law(x, "never if known < 1");
+        c.due("none known", x.chance(2, 0), 0);
+        x.sell(1, 2, 0);
+        c.due("had", x.walker(2, 3), 1);
+        c.due("not true", x.walker(2, 4), 0);
+        c.due("since", x.since(2, 0), 0);
+        c.due("who have it", x.gate(0, 4), 3);
+        c.due("answers of all", x.count(12), 5);
+        c.due("one may pass", x.may(2, 0, false), true);
+        c.due("none need be bought", x.cheapest(2, 1, true), 0);
+        c.due("nor for a convoy", x.convoy(4, 1, true), 0);
+        c.due("all three to be kept away", x.apart(0), 7);
+        c.refused("nor can it be bought again", REFUSED, () -> x.sell(0, 2, 0));
+        Check.law(x, "hard 0 if known > 0;never if known > 1");
+        Check.road(x, "walker 0 77");
+        c.due("it comes to one at an inn", x.inn(4 + 8), 1);
+        c.due("as one that is known", x.chance(3, 0), 77);
+        Check.law(x, "never if known > 0");
+        c.due("which the law counts", x.chance(3, 0), 0);
+        c.due("three sell it", x.monday(1), 1);
+        Check.road(x, "walker 0 0");
+        c.due("it is sold on", x.sell(2, 4, 0), 0);
     }
 
     private static void byItsOwn(Check c) {

@@ -244,6 +244,9 @@ public final class EdgePlansTest {
         c.due("nobody has it", x.apart(3), 0);
         Check.road(x, "walker 0 0 knows 0");
         c.due("the rarer of both", x.apart(2), 5);
+        RiddleRoad blind = Check.told("gate 0 blind;gate 0 double 0;walker 0 0 knows 0;walker 0 0 knows 1;walker 0 0 knows 0");
+        c.due("the one who has the one behind", blind.apart(0), 2);
+        c.due("the only one who has one of two", blind.apart(1), 2);
         RiddleRoad y = Check.told("gate 0;" + "walker 0 0 knows 0;".repeat(7) + "walker 0 0 knows 0");
         c.due("all eight", y.apart(0), 255);
         RiddleRoad z = Check.told("gate 0");
@@ -417,6 +420,9 @@ public final class EdgePlansTest {
         z.pass(1);
         z.live(3);
         c.due("the seller has no room", z.walker(0, 3), 0);
+        RiddleRoad u = Check.told("gate 0;walker 9 0;walker 9999 0 knows 0;walker 9 0 knows 0;price 1 0 1;price 2 0 2");
+        u.live(1);
+        c.due("the cheapest seller has no room, and no dearer one is asked", u.walker(0, 3), 0);
         RiddleRoad v = Check.told("gate 50;walker 9 0 knows 0;walker 9 0 knows 0;price 1 0 1;price 0 0 2");
         v.live(3);
         c.due("one has it", v.walker(0, 1), 9);

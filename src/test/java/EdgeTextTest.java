@@ -84,6 +84,15 @@ public final class EdgeTextTest {
         holds(c, x, "not (monday or monday)", false);
         holds(c, x, "not monday and 1<0", false);
         holds(c, x, "not (monday and 1<0)", true);
+        String[] wrong = {"1 > 2", "2 < 1", "1 > 1", "1 < 1", "not monday"};
+        for (String no : wrong) {
+            holds(c, x, no, false);
+            holds(c, x, "not " + no, true);
+            holds(c, x, no + " and monday", false);
+            holds(c, x, "monday and " + no, false);
+            holds(c, x, no + " or " + no, false);
+            holds(c, x, no + " or monday", true);
+        }
         c.wrongLaw(x, "never if monday or", 18);
         c.wrongLaw(x, "never if monday and", 19);
         c.wrongLaw(x, "never if or monday", 9);
