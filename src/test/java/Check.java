@@ -21,8 +21,38 @@ final class Check {
     private static final String DOCUMENT = read(Path.of("../shared/DOC.md"));
 
     private final List<String> sentences = new ArrayList<>();
+    private final boolean ofWords;
     private int compared = 0;
     private int wrong = 0;
+
+    Check() {
+        this(false);
+    }
+
+    private Check(boolean ofWords) {
+        this.ofWords = ofWords;
+    }
+
+    /** One that hears which sentences have a test, and makes none of these tests. */
+    static Check ofWords() {
+        return new Check(true);
+    }
+
+    List<String> sentences() {
+        return sentences;
+    }
+
+    /** Empty, where the document does not stand beside the project. */
+    static String document() {
+        return DOCUMENT;
+    }
+
+    /** From a heading to the next one. */
+    static String section(String heading) {
+        int from = DOCUMENT.indexOf(heading);
+        int to = DOCUMENT.indexOf("\n## ", from + 1);
+        return from < 0 || to < 0 ? "" : DOCUMENT.substring(from, to);
+    }
 
     void due(String what, long got, long want) {
         compared++;
@@ -149,6 +179,9 @@ final class Check {
         int comparedBefore = compared;
         int wrongBefore = wrong;
         sentences.add(words);
+        if (ofWords) {
+            return;
+        }
         if (!DOCUMENT.isEmpty() && !DOCUMENT.contains(words)) {
             wrong++;
             System.out.println("the document has no such words");
@@ -170,13 +203,9 @@ final class Check {
 
     /** A promise must have a test of one sentence of its own at least. */
     void promised(int promise) {
-        int from = DOCUMENT.indexOf("## Promise " + promise + ":");
-        int to = DOCUMENT.indexOf("\n## ", from + 1);
+        String section = section("## Promise " + promise + ":");
         compared++;
-        if (DOCUMENT.isEmpty()) {
-            return;
-        }
-        if (from < 0 || to < 0 || sentences.stream().noneMatch(DOCUMENT.substring(from, to)::contains)) {
+        if (!DOCUMENT.isEmpty() && sentences.stream().noneMatch(section::contains)) {
             wrong++;
             System.out.println("no sentence of promise " + promise + " has a test");
         }

@@ -4,12 +4,18 @@ public final class EdgeActsTest {
 
     public static void main(String[] args) {
         Check c = new Check();
+        sentences(c);
+        c.close();
+    }
+
+    static void sentences(Check c) {
         c.sentence("(FALSE ones are had, too: one does not know)", EdgeActsTest::falseOnesAreHad);
+        c.sentence("MAY PASS GATE G, by what one has, and by what of it is TRUE:", EdgeActsTest::hadAndTrue);
         c.sentence("plain, singing, closed (unless one is that WALKER), false: the ANSWER of G;", EdgeActsTest::byItsOwn);
         c.sentence("double: that and the one of OTHER;", EdgeActsTest::byBoth);
         c.sentence("blind: the ANSWER of the GATE behind it (of the last one: its own).", EdgeActsTest::blind);
         c.sentence("A false GATE opens to a FALSE ANSWER as to a TRUE one (by what is TRUE, too).", EdgeActsTest::falseGate);
-        c.sentence("and has TOLL in COINS: TOLL goes to THE CHEST;", EdgeActsTest::tollToTheCoin);
+        c.sentence("A PASS: a WALKER at a GATE who MAY PASS it by what one has, and has TOLL in COINS: TOLL goes to THE CHEST;", EdgeActsTest::tollToTheCoin);
         c.sentence("if one MAY PASS it by what is TRUE, one is AT the next one,", EdgeActsTest::nextOne);
         c.sentence("else one is CAUGHT: AT GATE 0,", EdgeActsTest::caughtAtAnyGate);
         c.sentence("and those FALSE ANSWERS of one's that it asks for are forgotten.", EdgeActsTest::onlyFalseOnes);
@@ -17,24 +23,23 @@ public final class EdgeActsTest {
         c.sentence("At a singing GATE that opened all others who are AT it have its ANSWER then (if not yet)",
                 EdgeActsTest::whoHears);
         c.sentence("TRUE as it was, since this DAY.", EdgeActsTest::whatIsHeard);
-        c.sentence("DRAW modulo 100 below CHANCE:", EdgeActsTest::drawBelowChance);
+        c.sentence("A GUESS: a WALKER AT a GATE: DRAW modulo 100 below CHANCE:", EdgeActsTest::drawBelowChance);
         c.sentence("one has its ANSWER, TRUE, since this DAY (in place of what one had);", EdgeActsTest::guessInPlace);
         c.sentence("else a coin goes to THE CHEST, if there is one.", EdgeActsTest::lastCoin);
-        c.sentence("SEED is 1103515245 times SEED and 12345, as an int that goes round;", EdgeActsTest::seedGoesRound);
+        c.sentence("DRAW: SEED is 1103515245 times SEED and 12345, as an int that goes round;", EdgeActsTest::seedGoesRound);
         c.sentence("bits 16 to 30", EdgeActsTest::drawBits);
         c.sentence("(SEED 1 at first).", EdgeActsTest::seedAtFirst);
-        c.sentence("by a WALKER who has the ANSWER and a PRICE for it, to another one who has it not:", EdgeActsTest::whoSells);
+        c.sentence("SOLD: by a WALKER who has the ANSWER and a PRICE for it, to another one who has it not:", EdgeActsTest::whoSells);
         c.sentence("COINS go over (9999 at most: else refused;", EdgeActsTest::fullPurse);
         c.sentence("refused, too, if there are not so many, or one of these is not so);", EdgeActsTest::refusedSales);
         c.sentence("it is TRUE as the seller's is, FALSE of a LIAR; since this DAY.", EdgeActsTest::truthOfSales);
-        c.sentence("all of a set of WALKERS have all ANSWERS then that one of them has:", EdgeActsTest::innOfSets);
+        c.sentence("INN: all of a set of WALKERS have all ANSWERS then that one of them has:", EdgeActsTest::innOfSets);
         c.sentence("what one had stays as it was;", EdgeActsTest::innStays);
         c.sentence("what one had not is since this DAY, and TRUE, if some of those who had it had it TRUE.",
                 EdgeActsTest::innTruth);
         c.sentence("WALK BACK: one GATE (0 at least).", EdgeActsTest::walkBack);
-        c.sentence("DAY is 1 more; then, if that is 0 modulo 7, CHANGE; then WEAR.", EdgeActsTest::dayMore);
+        c.sentence("A DAY more: DAY is 1 more; then, if that is 0 modulo 7, CHANGE; then WEAR.", EdgeActsTest::dayMore);
         c.sentence("COINS of all and THE CHEST are always what was told.", EdgeActsTest::coinsStay);
-        c.close();
     }
 
     /** Walker 0 knows all and sells true ones, walker 1 likewise sells false ones, for nothing; walker 2 buys. */
@@ -84,6 +89,27 @@ public final class EdgeActsTest {
         c.due("three sell it", x.monday(1), 1);
         Check.road(x, "walker 0 0");
         c.due("it is sold on", x.sell(2, 4, 0), 0);
+    }
+
+    /** Walker 2 has each answer true, or false, or not: all that can be of four gates. */
+    private static void hadAndTrue(Check c) {
+        int[] asked = {1, 3, 8, 8};
+        for (int n = 0; n < 81; n++) {
+            RiddleRoad x = lies("gate 0;gate 0 double 0;gate 0 blind;gate 0 false", 4);
+            int had = 0;
+            int sure = 0;
+            for (int g = 0, rest = n; g < 4; g++, rest /= 3) {
+                if (rest % 3 > 0) {
+                    x.sell(rest % 3 - 1, 2, g);
+                    had |= 1 << g;
+                    sure |= rest % 3 == 1 ? 1 << g : 0;
+                }
+            }
+            for (int g = 0; g < 4; g++) {
+                c.due("may " + g + " with " + had, x.may(2, g, false), (asked[g] & ~had) == 0);
+                c.due("surely may " + g + " with " + sure, x.may(2, g, true), (asked[g] & ~(g == 3 ? had : sure)) == 0);
+            }
+        }
     }
 
     private static void byItsOwn(Check c) {

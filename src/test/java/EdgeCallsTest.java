@@ -17,6 +17,14 @@ public final class EdgeCallsTest {
 
     public static void main(String[] args) {
         Check c = new Check();
+        sentences(c);
+        for (int promise = 1; promise <= 35; promise++) {
+            c.promised(promise);
+        }
+        c.close();
+    }
+
+    static void sentences(Check c) {
         c.sentence("An object is used for at most 512 calls after it has been made; what later calls answer is free.",
                 EdgeCallsTest::fiveHundredAndTwelve);
         told(c);
@@ -25,10 +33,6 @@ public final class EdgeCallsTest {
         plans(c);
         chains(c);
         turns(c);
-        for (int promise = 1; promise <= 35; promise++) {
-            c.promised(promise);
-        }
-        c.close();
     }
 
     private static void told(Check c) {
@@ -48,6 +52,7 @@ public final class EdgeCallsTest {
         c.sentence("Of a GATE what 0 KIND, 1 TOLL, 2 OTHER or the WALKER to whom it is closed (NONE)", EdgeCallsTest::otherOrNone);
         c.sentence("3 how many WALKERS are AT it, 4 how many have its ANSWER,", EdgeCallsTest::noneToAll);
         c.sentence("5 1 if it is of CHANGE. NoSuchElementException: another what.", EdgeCallsTest::gateWhat);
+        c.sentence("Of a WALKER what 0 AT, 1 COINS, 2 EAR, 3 ANSWERS that one has, as bits,", EdgeCallsTest::walkerLooks);
         c.sentence("4 those that are TRUE, 5 1 for a LIAR. NoSuchElementException: another what.", EdgeCallsTest::walkerWhat);
         c.sentence("Since what DAY a WALKER has an ANSWER; NONE.", EdgeCallsTest::sinceNone);
         c.sentence("PRICE; NONE: it is not for sale.", EdgeCallsTest::priceNone);
@@ -102,7 +107,9 @@ public final class EdgeCallsTest {
         c.sentence("UNDONE: whether there was one.", EdgeCallsTest::undone);
         c.sentence("THE IMAGE is kept.", EdgeCallsTest::kept);
         c.sentence("One goes back to THE IMAGE: true; false, and nothing happens, if none was kept.", EdgeCallsTest::back);
+        c.sentence("0 GATES, 1 WALKERS, 2 texts of THE ROAD,", EdgeCallsTest::countsOfTexts);
         c.sentence("3 LINES of LAW (NONE without one)", EdgeCallsTest::linesOfLaw);
+        c.sentence("4 DAY, 5 WEAR, 6 CHANGE, 7 THE CHEST, 8 COINS of all, 9 CHAINS,", EdgeCallsTest::countsOfAll);
         c.sentence("10 acts that can be UNDONE, 11 WALKERS behind the last GATE, 12 ANSWERS that all have together.",
                 EdgeCallsTest::lastCounts);
         c.sentence("12 ANSWERS that all have together. NONE for another what.", EdgeCallsTest::countWhat);
@@ -328,6 +335,23 @@ public final class EdgeCallsTest {
             c.refused("what " + what, NO_WHAT, () -> x.gate(0, what));
             c.refused("no gate, and what " + what, NO_SUCH, () -> x.gate(3, what));
         }
+    }
+
+    private static void walkerLooks(Check c) {
+        RiddleRoad x = Check.told(ROAD);
+        int[][] due = {{0, 20, 50, 3}, {0, 30, 0, 4}, {0, 9999, 0, 0}};
+        for (int w = 0; w < 3; w++) {
+            for (int what = 0; what < 4; what++) {
+                c.due("walker " + w + " " + what, x.walker(w, what), due[w][what]);
+            }
+        }
+        x.pass(0);
+        x.sell(0, 1, 0);
+        c.due("at the next one", x.walker(0, 0), 1);
+        c.due("a toll less, a price more", x.walker(0, 1), 24);
+        c.due("a price less", x.walker(1, 1), 25);
+        c.due("an answer more", x.walker(1, 3), 5);
+        c.due("the ear stays", x.walker(0, 2), 50);
     }
 
     private static void walkerWhat(Check c) {
@@ -755,6 +779,39 @@ public final class EdgeCallsTest {
         c.due("kept", x.back(), true);
         c.due("none is remembered", x.count(10), 0);
         c.due("a new object has none", new RiddleRoad().back(), false);
+    }
+
+    private static void counts(Check c, RiddleRoad x, int from, int... due) {
+        for (int i = 0; i < due.length; i++) {
+            c.due("count " + (from + i), x.count(from + i), due[i]);
+        }
+    }
+
+    private static void countsOfTexts(Check c) {
+        RiddleRoad x = new RiddleRoad();
+        counts(c, x, 0, 0, 0, 0);
+        Check.road(x, "gate 0;walker 1 1;gate 0");
+        counts(c, x, 0, 2, 1, 1);
+        Check.law(x, "never");
+        Check.chain(x, "ab");
+        c.wrongRoad(x, "gate 0;walker 1 1;gate", 22);
+        counts(c, x, 0, 2, 1, 1);
+        x.road();
+        Check.road(x, "walker 1 1;walker 1 1");
+        counts(c, x, 0, 2, 3, 3);
+    }
+
+    private static void countsOfAll(Check c) {
+        RiddleRoad x = Check.told(ROAD + ";wear 60");
+        counts(c, x, 4, 0, 60, 2, 0, 10049, 0);
+        x.pass(0);
+        Check.chain(x, "abc");
+        Check.chain(x, "abc");
+        counts(c, x, 4, 0, 60, 2, 1, 10048, 2);
+        x.days(8);
+        Check.road(x, "wear 0;change 2 0");
+        x.forget();
+        counts(c, x, 4, 8, 0, 5, 1, 10048, 0);
     }
 
     private static void linesOfLaw(Check c) {

@@ -4,8 +4,13 @@ public final class EdgePlansTest {
 
     public static void main(String[] args) {
         Check c = new Check();
+        sentences(c);
+        c.close();
+    }
+
+    static void sentences(Check c) {
         c.sentence("CHEAPEST for a WALKER to a GATE T (AT T; not ahead of where one is)", EdgePlansTest::toWhereOneIs);
-        c.sentence("each that one has not, of the WALKER who has it and sells it for the least, of several the least",
+        c.sentence("sets of ANSWERS that are bought (each that one has not, of the WALKER who has it and sells it for the least, of several the least)",
                 EdgePlansTest::leastSeller);
         c.sentence("so that one MAY PASS all GATES up to there by what one has:", EdgePlansTest::byWhatOneHas);
         c.sentence("the least of PRICES and TOLLS together; of several the fewest ANSWERS, then the least as bits; none.",
@@ -16,10 +21,11 @@ public final class EdgePlansTest {
                 EdgePlansTest::convoyTogether);
         c.sentence("(each of the WALKER who is not of them, has it and sells it for the least) once for all:",
                 EdgePlansTest::convoyBuysOnce);
+        c.sentence("CHEAPEST likewise so that each of them MAY PASS all GATES from where that one is AT up to T", EdgePlansTest::convoyLikewise);
         c.sentence("up to T (those who are beyond it have nothing to pass): PRICES and TOLLS of all together; none.",
                 EdgePlansTest::convoyBeyond);
         c.sentence("TRIES: the fewest GUESSES (0 to 99) of a WALKER at a GATE, CHANCE being as it is now,", EdgePlansTest::triesTo99);
-        c.sentence("(1000000000 at first, by each one more times (100 less CHANCE) by 100, rounded down)",
+        c.sentence("by which the doubt (1000000000 at first, by each one more times (100 less CHANCE) by 100, rounded down)",
                 EdgePlansTest::triesRounded);
         c.sentence("is so many millionths at most; none.", EdgePlansTest::triesAtMost);
         c.sentence("BRING: the fewest WALKERS who, at an INN, would MAY PASS all GATES of a set", EdgePlansTest::bringFewest);
@@ -30,18 +36,23 @@ public final class EdgePlansTest {
         c.sentence("(closed as plain): of several the least as bits.", EdgePlansTest::apartLeast);
         c.sentence("CHAINS (at most 6, numbered from 0 on):", EdgePlansTest::sixChains);
         c.sentence("rows of letters (a to z, one for each GATE: its ANSWER)", EdgePlansTest::lettersOfChains);
-        c.sentence("the fewest with which one can always part them, each time asking the letter at one GATE",
+        c.sentence("one of which is true. QUESTIONS: the fewest with which one can always part them, each time asking the letter at one GATE",
                 EdgePlansTest::fewestQuestions);
+        c.sentence("(the next one may depend on what was told): how many;", EdgePlansTest::nextQuestion);
         c.sentence("FIRST: the GATE to be asked first, of several the least; none, if two are alike in all.",
                 EdgePlansTest::firstOrNone);
+        c.sentence("LIE: keepers said of each GATE whether the answer was true (T), false (F), or they do not know (?):",
+                EdgePlansTest::sayings);
         c.sentence("at just one GATE it was a lie (false), at all others true; E keepers at most said what is not so:",
                 EdgePlansTest::justOneLie);
+        c.sentence("all GATES at which it can have been, as bits.", EdgePlansTest::allWhereItCanBe);
         c.sentence("MONDAY: for N GATES (0 to 12):", EdgePlansTest::mondayOfAll);
+        c.sentence("of all sets of N GATES that by which, if all ANSWERS of these were forgotten,", EdgePlansTest::mondayAsItComes);
         c.sentence("the fewest ANSWERS would be left that a WALKER has and has a PRICE for: of several the least as bits.",
                 EdgePlansTest::mondayLeast);
-        c.sentence("each WALKER who is not behind the last GATE, by numbers: a PASS, if that can be;", EdgePlansTest::drawnPass);
+        c.sentence("DRAWN DAYS: each DAY: each WALKER who is not behind the last GATE, by numbers: a PASS, if that can be;", EdgePlansTest::drawnPass);
         c.sentence("else a GUESS, if CHANCE is above 0;", EdgePlansTest::drawnGuess);
-        c.sentence("is bought of the cheapest seller (as above), if one has it not and it can be.", EdgePlansTest::drawnSale);
+        c.sentence("else the ANSWER of the GATE where one is, is bought of the cheapest seller (as above), if one has it not and it can be.", EdgePlansTest::drawnSale);
         c.sentence("Then a DAY more.", EdgePlansTest::drawnDay);
         c.sentence("UNDONE: the latest PASS, GUESS, SALE, INN, not undone yet", EdgePlansTest::latestFirst);
         c.sentence("(12 are remembered, also an INN by which nothing came)", EdgePlansTest::twelve);
@@ -49,7 +60,6 @@ public final class EdgePlansTest {
         c.sentence("A text, a DAY more or DRAWN ones, going back to THE IMAGE: none are remembered.", EdgePlansTest::forgotten);
         c.sentence("THE IMAGE (one) of all may be kept, and gone back to", EdgePlansTest::oneImage);
         c.sentence("(but for the TAPE, fault() and THE IMAGE itself).", EdgePlansTest::imageButThree);
-        c.close();
     }
 
     private static void plan(Check c, RiddleRoad x, int walker, int to, int coins, int set) {
@@ -150,6 +160,24 @@ public final class EdgePlansTest {
         convoy(c, x, 23, 1, 0, 0);
         RiddleRoad y = Check.told("gate 0;walker 0 0;walker 0 0 knows 0");
         convoy(c, y, 1, 1, -1, -1);
+    }
+
+    private static void convoyLikewise(Check c) {
+        RiddleRoad x = Check.told("gate 1;gate 2;gate 4;gate 8;walker 99 0 knows 0;walker 99 0 knows 1;walker 99 0 knows 0 1 2;"
+                + "price 2 0 10;price 2 1 20;price 2 2 40");
+        x.pass(0);
+        for (int w = 0; w < 3; w++) {
+            for (int to = x.walker(w, 0); to <= 4; to++) {
+                convoy(c, x, 1 << w, to, x.cheapest(w, to, false), x.cheapest(w, to, true));
+            }
+        }
+        convoy(c, x, 3, 1, 1, 0);
+        convoy(c, x, 3, 2, 5, 0);
+        convoy(c, x, 3, 3, 53, 4);
+        convoy(c, x, 3, 4, -1, -1);
+        convoy(c, x, 7, 3, 20, 0);
+        Check.road(x, "gate 0 closed 1");
+        convoy(c, x, 3, 3, 53, 4);
     }
 
     private static void convoyBeyond(Check c) {
@@ -310,6 +338,14 @@ public final class EdgePlansTest {
         asks(c, chains(4, "paqa", "paqb", "pbra", "pbsa", "pcaa", "pcab"), 2, 1);
     }
 
+    /** The same gates for all that can be told would be three. */
+    private static void nextQuestion(Check c) {
+        asks(c, chains(3, "aaa", "aba", "baa", "bab"), 2, 0);
+        asks(c, chains(3, "aaa", "baa", "aab", "abb"), 2, 2);
+        asks(c, chains(4, "aaaa", "abaa", "baaa", "baba", "caaa", "caab"), 2, 0);
+        asks(c, chains(4, "aaaa", "aaba", "aaab", "abaa", "abba", "abab"), 3, 1);
+    }
+
     private static void firstOrNone(Check c) {
         asks(c, chains(3, "aaa", "abb"), 1, 1);
         asks(c, chains(3, "aba", "bab"), 1, 0);
@@ -321,6 +357,26 @@ public final class EdgePlansTest {
         asks(c, x, 0, -1);
         Check.chain(x, "");
         asks(c, x, -1, -1);
+    }
+
+    /** All rows of four sayings: who said false elsewhere, or true there, said what is not so. */
+    private static void sayings(Check c) {
+        for (int row = 0; row < 81; row++) {
+            RiddleRoad x = Check.told("gate 0;gate 0;gate 0;gate 0");
+            StringBuilder said = new StringBuilder();
+            for (int g = 0, rest = row; g < 4; g++, rest /= 3) {
+                said.append("TF?".charAt(rest % 3));
+            }
+            for (int e = 0; e < 6; e++) {
+                int due = 0;
+                for (int g = 0; g < 4; g++) {
+                    String others = said.substring(0, g) + said.substring(g + 1);
+                    long wrong = others.chars().filter(s -> s == 'F').count() + (said.charAt(g) == 'T' ? 1 : 0);
+                    due |= wrong <= e ? 1 << g : 0;
+                }
+                c.due("lie " + said + " " + e, Check.lie(x, said.toString(), e), due);
+            }
+        }
     }
 
     private static void justOneLie(Check c) {
@@ -344,6 +400,17 @@ public final class EdgePlansTest {
         c.due("eleven are, at least", Check.lie(z, "FFFFFFFFFFFF", 10), 0);
     }
 
+    private static void allWhereItCanBe(Check c) {
+        RiddleRoad x = Check.told(EdgeRoadTest.gates(12));
+        c.due("the first", Check.lie(x, "F???????????", 0), 1);
+        c.due("the last", Check.lie(x, "???????????F", 0), 2048);
+        c.due("all but the last", Check.lie(x, "???????????T", 0), 2047);
+        c.due("all but the first and the last", Check.lie(x, "T??????????T", 0), 2046);
+        c.due("any", Check.lie(x, "????????????", 0), 4095);
+        c.due("any of all that can be said", Check.lie(x, "TFTFTFTFTFTF", 12), 4095);
+        c.due("none", Check.lie(x, "TTTTTTTTTTTT", 0), 0);
+    }
+
     private static void mondayOfAll(Check c) {
         RiddleRoad x = Check.told(EdgeRoadTest.gates(12));
         Check.road(x, "walker 0 0 knows 11;price 0 11 0");
@@ -353,6 +420,45 @@ public final class EdgePlansTest {
         c.due("twelve", x.monday(12), 4095);
         c.refused("thirteen", WRONG, () -> x.monday(13));
         c.refused("below 0", WRONG, () -> x.monday(-1));
+    }
+
+    private static RiddleRoad sellers() {
+        RiddleRoad x = Check.told("gate 0;gate 0;gate 0;gate 0;gate 0;walker 0 0 knows 0 1 2;walker 0 0 knows 1 3;walker 0 0 knows 0 1 2 3 4;"
+                + "price 0 0 1;price 0 2 2;price 1 3 0;price 1 4 9;price 2 1 7");
+        Check.road(x, "price 2 2 3;price 2 3 3;price 0 4 1");
+        return x;
+    }
+
+    /** How many are left that are had and sold, when just these were forgotten on a Monday. */
+    private static int leftBy(int set) {
+        RiddleRoad x = sellers();
+        StringBuilder change = new StringBuilder(set == 0 ? "still" : "change");
+        for (int g = 0; g < 5; g++) {
+            change.append((set >> g & 1) == 1 ? " " + g : "");
+        }
+        Check.road(x, change.toString());
+        x.days(7);
+        int left = 0;
+        for (int w = 0; w < 3; w++) {
+            for (int g = 0; g < 5; g++) {
+                left += x.since(w, g) >= 0 && x.price(w, g) >= 0 ? 1 : 0;
+            }
+        }
+        return left;
+    }
+
+    private static void mondayAsItComes(Check c) {
+        RiddleRoad x = sellers();
+        for (int n = 0; n <= 5; n++) {
+            int best = -1;
+            for (int set = 0; set < 32; set++) {
+                if (Integer.bitCount(set) == n && (best < 0 || leftBy(set) < leftBy(best))) {
+                    best = set;
+                }
+            }
+            c.due("monday " + n, x.monday(n), best);
+        }
+        c.due("nothing was forgotten", x.count(12), 10);
     }
 
     private static void mondayLeast(Check c) {

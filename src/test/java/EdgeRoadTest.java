@@ -5,6 +5,11 @@ public final class EdgeRoadTest {
 
     public static void main(String[] args) {
         Check c = new Check();
+        sentences(c);
+        c.close();
+    }
+
+    static void sentences(Check c) {
         c.sentence("GATES (at most 12, numbered from 0 on, along the road)", EdgeRoadTest::twelveGates);
         c.sentence("KIND 0 plain, 1 double, 2 blind, 3 singing, 4 closed, 5 false", EdgeRoadTest::sixKinds);
         c.sentence("TOLL 0 to 99", EdgeRoadTest::tolls);
@@ -20,20 +25,21 @@ public final class EdgeRoadTest {
         c.sentence("PRICE of a WALKER for an ANSWER: 0 to 99, or not for sale (at first).", EdgeRoadTest::prices);
         c.sentence("LIAR: what one sells is FALSE.", EdgeRoadTest::liars);
         c.sentence("DAY: 0 at first.", EdgeRoadTest::dayAtFirst);
-        c.sentence("an ANSWER is forgotten, if it was had for more DAYS than that (0 to 99;", EdgeRoadTest::wear);
+        c.sentence("WEAR: an ANSWER is forgotten, if it was had for more DAYS than that (0 to 99;", EdgeRoadTest::wear);
         c.sentence("0: never, as at first).", EdgeRoadTest::wearNever);
         c.sentence("CHANGE: GATES (bits; none at first)", EdgeRoadTest::changeAtFirst);
         c.sentence("whose ANSWERS are all forgotten on each DAY that is 0 modulo 7.", EdgeRoadTest::changeOnMondays);
         c.sentence("CHEST: coins of tolls (0 at first).", EdgeRoadTest::chestAtFirst);
         c.sentence("THE ROAD is told in texts (at most 10, one behind another)", EdgeRoadTest::tenTexts);
-        c.sentence("LINE { ; LINE }, at most 14: gate TOLL", EdgeRoadTest::fourteenLines);
+        c.sentence("LINE { ; LINE }, at most 14:", EdgeRoadTest::fourteenLines);
+        c.sentence("gate TOLL [ double G | blind | singing | closed W | false ]", EdgeRoadTest::gateLines);
         c.sentence("walker COINS EAR [ knows G { G } ]", EdgeRoadTest::knowsSome);
-        c.sentence("change G { G } | still", EdgeRoadTest::changeOfSome);
-        c.sentence("W of price and liar: a WALKER that there is by then;", EdgeRoadTest::walkersByThen);
+        c.sentence("| price W G N | wear N |", EdgeRoadTest::priceAndWearLines);
+        c.sentence("change G { G } | still | liar W.", EdgeRoadTest::changeOfSome);
+        c.sentence("G: a GATE, W of price and liar: a WALKER that there is by then;", EdgeRoadTest::walkersByThen);
         c.sentence("W of closed: 0 to 7.", EdgeRoadTest::closedToNobodyYet);
         c.sentence("change: in place of those before; still: none.", EdgeRoadTest::changeInPlace);
         c.sentence("COINS is of 1 to 4 digits, all others of 1 to 3.", EdgeRoadTest::digits);
-        c.close();
     }
 
     /** So many plain gates that cost nothing: fourteen at most fit into a text. */
@@ -314,6 +320,31 @@ public final class EdgeRoadTest {
         c.due("one more text of fourteen", Check.road(x, "wear 3;".repeat(13) + "wear 4"), 2);
     }
 
+    private static void gateLines(Check c) {
+        RiddleRoad x = Check.told("gate 5;gate 6 double 0;gate 7 blind;gate 8 singing;gate 9 closed 3;gate 10 false");
+        int[] others = {-1, 0, -1, -1, 3, -1};
+        for (int g = 0; g < 6; g++) {
+            c.due("kind of gate " + g, x.gate(g, 0), g);
+            c.due("toll of gate " + g, x.gate(g, 1), 5 + g);
+            c.due("other of gate " + g, x.gate(g, 2), others[g]);
+        }
+        c.wrongRoad(x, "gate", 4);
+        c.wrongRoad(x, "gate blind", 5);
+        c.wrongRoad(x, "gate 1 double", 13);
+        c.wrongRoad(x, "gate 1 double;still", 13);
+        c.wrongRoad(x, "gate 1 double blind", 14);
+        c.wrongRoad(x, "gate 1 double 0 blind", 16);
+        c.wrongRoad(x, "gate 1 closed", 13);
+        c.wrongRoad(x, "gate 1 closed 0 0", 16);
+        c.wrongRoad(x, "gate 1 blind 0", 13);
+        c.wrongRoad(x, "gate 1 singing 0", 15);
+        c.wrongRoad(x, "gate 1 false 0", 13);
+        c.wrongRoad(x, "gate 1 blind singing", 13);
+        c.wrongRoad(x, "gate 1 plain", 7);
+        c.wrongRoad(x, "gate 1 still", 7);
+        c.due("none of these", x.count(0), 6);
+    }
+
     private static void knowsSome(Check c) {
         RiddleRoad x = Check.told("gate 0;gate 0;gate 0");
         c.wrongRoad(x, "walker 1 1 knows", 16);
@@ -325,6 +356,23 @@ public final class EdgeRoadTest {
         }
         c.wrongRoad(x, "walker 1 1 knows 3", 17);
         c.wrongRoad(x, "walker 1 1 knows 0 1 2 3", 23);
+    }
+
+    private static void priceAndWearLines(Check c) {
+        RiddleRoad x = Check.told("gate 0;gate 0;walker 0 0;walker 0 0;price 1 0 7;price 0 1 8;price 1 0 9;wear 5;wear 6");
+        c.due("the later price", x.price(1, 0), 9);
+        c.due("the other way round", x.price(0, 1), 8);
+        c.due("neither", x.price(0, 0), -1);
+        c.due("the later wear", x.count(5), 6);
+        c.wrongRoad(x, "price", 5);
+        c.wrongRoad(x, "price 0", 7);
+        c.wrongRoad(x, "price 0 0", 9);
+        c.wrongRoad(x, "price 0 0 ;still", 10);
+        c.wrongRoad(x, "price 0 0 0 0", 12);
+        c.wrongRoad(x, "price 0 0 still", 10);
+        c.wrongRoad(x, "wear", 4);
+        c.wrongRoad(x, "wear;still", 4);
+        c.wrongRoad(x, "wear 1 2", 7);
     }
 
     private static void changeOfSome(Check c) {

@@ -4,13 +4,20 @@ public final class EdgeTextTest {
 
     public static void main(String[] args) {
         Check c = new Check();
+        sentences(c);
+        c.close();
+    }
+
+    static void sentences(Check c) {
         c.sentence("LAW (a text, in place of the one before)", EdgeTextTest::lawInPlace);
         c.sentence("LINE { ; LINE }, at most 12", EdgeTextTest::twelveLines);
         c.sentence("hard N [ if C ] | never [ if C ]", EdgeTextTest::withoutConditions);
-        c.sentence("ALL { or ALL }; ALL: ATOM { and ATOM }", EdgeTextTest::andIsCloser);
-        c.sentence("SUM: PART { + PART }", EdgeTextTest::sums);
+        c.sentence("C: ALL { or ALL }; ALL: ATOM { and ATOM };", EdgeTextTest::andIsCloser);
+        c.sentence("ATOM: not ATOM | ( C ) | monday | SUM < SUM | SUM > SUM.", EdgeTextTest::atoms);
+        c.sentence("SUM: PART { + PART };", EdgeTextTest::sums);
+        c.sentence("PART: NUMBER | gate | kind | toll | day | coins | known | ear.", EdgeTextTest::parts);
         c.sentence("All numbers are of 1 to 3 digits (N 0 to 999).", EdgeTextTest::lawNumbers);
-        c.sentence("EAR less the sum of N of all hard LINES that hold, 0 at least;", EdgeTextTest::chanceAtLeast);
+        c.sentence("CHANCE of a WALKER at a GATE: EAR less the sum of N of all hard LINES that hold, 0 at least;", EdgeTextTest::chanceAtLeast);
         c.sentence("0, if some never LINE holds.", EdgeTextTest::never);
         c.sentence("day: DAY modulo 7;", EdgeTextTest::dayGoesRound);
         c.sentence("monday: that is 0;", EdgeTextTest::mondays);
@@ -29,7 +36,6 @@ public final class EdgeTextTest {
         c.sentence("of a GATE, WALKER too many, the first word)", EdgeTextTest::gateOrWalkerTooMany);
         c.sentence("or the text's length, if more must come.", EdgeTextTest::moreMustCome);
         c.sentence("Of a wrong text nothing stays.", EdgeTextTest::nothingStays);
-        c.close();
     }
 
     private static void chance(Check c, RiddleRoad x, String law, int due) {
@@ -98,6 +104,39 @@ public final class EdgeTextTest {
         c.wrongLaw(x, "never if or monday", 9);
     }
 
+    private static void atoms(Check c) {
+        RiddleRoad x = Check.told(ROAD);
+        holds(c, x, "monday", true);
+        holds(c, x, "not monday", false);
+        holds(c, x, "not not monday", true);
+        holds(c, x, "(monday)", true);
+        holds(c, x, "(not monday)", false);
+        holds(c, x, "not (monday)", false);
+        holds(c, x, "1 < 2", true);
+        holds(c, x, "2 < 1", false);
+        holds(c, x, "2 > 1", true);
+        holds(c, x, "1 > 2", false);
+        holds(c, x, "not 1 > 2", true);
+        holds(c, x, "not not 2 < 1", false);
+        c.wrongLaw(x, "hard 1 if not", 13);
+        c.wrongLaw(x, "hard 1 if ()", 11);
+        c.wrongLaw(x, "hard 1 if (monday", 17);
+        c.wrongLaw(x, "hard 1 if monday)", 16);
+        c.wrongLaw(x, "hard 1 if monday monday", 17);
+        c.wrongLaw(x, "hard 1 if monday < 1", 17);
+        c.wrongLaw(x, "hard 1 if monday + 1 < 1", 17);
+        c.wrongLaw(x, "hard 1 if 1", 11);
+        c.wrongLaw(x, "hard 1 if 1 and monday", 12);
+        c.wrongLaw(x, "hard 1 if 1 <", 13);
+        c.wrongLaw(x, "hard 1 if 1 < monday", 14);
+        c.wrongLaw(x, "hard 1 if 1 < 2 < 3", 16);
+        c.wrongLaw(x, "hard 1 if (1) < 2", 12);
+        c.wrongLaw(x, "hard 1 if (1 < 2", 16);
+        c.wrongLaw(x, "hard 1 if 1 = 1", 12);
+        c.wrongLaw(x, "hard 1 if 1 <= 1", 13);
+        c.wrongLaw(x, "hard 1 if hard", 10);
+    }
+
     private static void sums(Check c) {
         RiddleRoad x = Check.told(ROAD);
         holds(c, x, "3 < 1 + 1 + 1 + 1", true);
@@ -111,6 +150,31 @@ public final class EdgeTextTest {
         c.wrongLaw(x, "never if 1 + ", 13);
         c.wrongLaw(x, "never if 1 +  < 2", 14);
         c.wrongLaw(x, "never if < 2", 9);
+    }
+
+    /** A part has just this value, of walker 0 at gate 1. */
+    private static void worth(Check c, RiddleRoad x, String part, int value) {
+        holds(c, x, part + " < " + (value + 1) + " and " + part + " + 1 > " + value, true);
+        holds(c, x, part + " < " + value + " or " + part + " > " + value, false);
+    }
+
+    private static void parts(Check c) {
+        RiddleRoad x = Check.told(ROAD);
+        x.days(10);
+        worth(c, x, "0", 0);
+        worth(c, x, "998", 998);
+        worth(c, x, "gate", 1);
+        worth(c, x, "kind", 1);
+        worth(c, x, "toll", 3);
+        worth(c, x, "day", 3);
+        worth(c, x, "coins", 20);
+        worth(c, x, "known", 2);
+        worth(c, x, "ear", 80);
+        worth(c, x, "gate + kind + toll + day + coins + known + ear + 7", 117);
+        String[] none = {"walker", "price", "wear", "change", "chest", "answer", "double", "knows", "not", "+", "<", ")", "#"};
+        for (String word : none) {
+            c.wrongLaw(x, "hard 1 if 1 + " + word + " < 2", 14);
+        }
     }
 
     private static void lawNumbers(Check c) {

@@ -20,13 +20,17 @@ public final class RefusedTest {
 
     public static void main(String[] args) {
         Check c = new Check();
+        sentences(c);
+        c.close();
+    }
+
+    static void sentences(Check c) {
         c.sentence("Of several exceptions the one told first is thrown;", RefusedTest::order);
         c.sentence("a call that throws changes nothing but the TAPE, where it is used up,", RefusedTest::changesNothing);
         c.sentence("and fault(), where a text is read (also by one that is refused).", RefusedTest::textsOfRefused);
         c.sentence("IndexOutOfBoundsException: there is no such GATE, WALKER, CHAIN.", RefusedTest::noSuch);
         c.sentence("IllegalStateException: it is refused.", RefusedTest::refused);
         c.sentence("Nothing is promised beyond the answers and state changes described above", RefusedTest::looksChangeNothing);
-        c.close();
     }
 
     /**
