@@ -39,6 +39,18 @@ public final class StoryTest {
         c.due("all coins", x.count(7) + x.count(8), x.count(1) == 0 ? 0 : ALL_COINS);
     }
 
+    /** Fewer looks than Check.all makes: the story must end ahead of the 512th call. */
+    private String looks() {
+        StringBuilder all = new StringBuilder();
+        for (int what = 0; what < 12; what++) {
+            all.append(' ').append(x.count(what));
+        }
+        for (int w = 0; w < x.count(1); w++) {
+            all.append(", ").append(x.walker(w, 0)).append(' ').append(x.walker(w, 1)).append(' ').append(x.walker(w, 4));
+        }
+        return all.toString();
+    }
+
     private void sixKinds(Check c) {
         Check.road(x, "gate 1;gate 2 singing;gate 3 blind;gate 4 double 0;gate 5 closed 2;gate 6 false");
         int[] kinds = {0, 3, 2, 1, 4, 5};
@@ -180,26 +192,26 @@ public final class StoryTest {
     }
 
     private void undone(Check c) {
-        String before = Check.all(x);
+        String before = looks();
         x.inn(255);
         x.guess(0);
         c.due("two acts", x.count(10), 2);
         c.due("the guess", x.undo(), true);
         c.due("the inn", x.undo(), true);
         c.due("no more", x.undo(), false);
-        c.due("all is as ahead of them", Check.all(x), before);
+        c.due("all is as ahead of them", looks(), before);
     }
 
     private void image(Check c) {
         x.image();
-        String kept = Check.all(x);
+        String kept = looks();
         for (int i = 0; i < 5; i++) {
             x.live(9);
             addUp(c);
         }
         c.due("many days later", x.count(4), 13 + 45);
         c.due("back", x.back(), true);
-        c.due("as it was kept", Check.all(x), kept);
+        c.due("as it was kept", looks(), kept);
         addUp(c);
     }
 }
